@@ -5,6 +5,9 @@ public final class ClinchClock {
     private static final int NOTHING = -2;
     private static final int NO_GAIN = -100000;
     private static final int FAULT_BASE = -4;
+    // No payments or gains, of eight bidders with eight values, come near these.
+    private static final int BELOW_ALL = -1000000;
+    private static final int ABOVE_ALL = 1000000;
 
     private static final int MOST_BIDDERS = 8;
     private static final int MOST_VALUES = 8;
@@ -23,14 +26,15 @@ public final class ClinchClock {
     private static final int OWN = 2;
     private static final int HARM = 3;
 
-    private final Tape tape = new Tape();
-    private final Book book = new Book();
+    private final TextReader reader = new TextReader();
+    private final Tape tape = reader.tape;
+    private final Auction held = new Auction();
+    private final Book book = held.book;
     private final Ledger ledger = new Ledger();
     private final History history = new History();
-    private final Auction held = new Auction(book);
-    private final Book trial = new Book();
-    private final Auction were = new Auction(trial);
-    private final TextReader reader = new TextReader(tape, trial);
+    // Things as they WERE: each such call makes them anew from the book.
+    private final Auction were = new Auction();
+    private final Book trial = were.book;
     private final Pen pen = new Pen();
     private boolean stale = true;
 
@@ -60,7 +64,7 @@ public final class ClinchClock {
     }
 
     public int text() {
-        int fault = reader.read();
+        int fault = reader.read(trial);
         tape.length = 0;
         if (fault >= 0) {
             return FAULT_BASE - fault;
@@ -328,7 +332,7 @@ public final class ClinchClock {
         }
         Auction now = now();
         int best = NOTHING;
-        int most = Integer.MIN_VALUE;
+        int most = BELOW_ALL;
         for (int b = 0; b < book.bidders; b++) {
             int payment = now.payment(b, kind);
             if (payment > most) {
@@ -451,7 +455,7 @@ public final class ClinchClock {
             return NONE;
         }
         int best = 0;
-        int most = Integer.MIN_VALUE;
+        int most = BELOW_ALL;
         for (int price = 0; price <= TOP_PRICE; price++) {
             supposeReserve(price);
             int all = were.paidByAll(kind);
@@ -481,7 +485,7 @@ public final class ClinchClock {
 
     public int pivot() {
         int best = NOTHING;
-        int least = Integer.MAX_VALUE;
+        int least = ABOVE_ALL;
         for (int b = 0; b < book.bidders; b++) {
             supposeWithout(b);
             int all = were.paidByAll(CLINCHED);
@@ -505,7 +509,7 @@ public final class ClinchClock {
             return NONE;
         }
         int best = 0;
-        int most = Integer.MIN_VALUE;
+        int most = BELOW_ALL;
         for (int n = 0; n <= book.counts[bidder]; n++) {
             int gained = gainByTelling(bidder, kind, n);
             if (gained >= most) {
@@ -528,7 +532,7 @@ public final class ClinchClock {
             return NONE;
         }
         int best = 0;
-        int most = Integer.MIN_VALUE;
+        int most = BELOW_ALL;
         for (int by = 0; by <= MOST_HIDDEN; by++) {
             int gained = gainByHiding(bidder, kind, by);
             if (gained > most) {
@@ -1088,7 +1092,7 @@ public final class ClinchClock {
 
     /** One auction of a Book: who got which unit, when, at which price. */
     private static final class Auction {
-        final Book book;
+        final Book book = new Book();
         int end = 0;
         int soldUnits = 0;
         int clockUnits = 0;
@@ -1099,10 +1103,6 @@ public final class ClinchClock {
         final int[] soldAt = new int[MOST_UNITS];
         private final int[] above = new int[ROOM];
         private final int[] gains = new int[ROOM];
-
-        Auction(Book book) {
-            this.book = book;
-        }
 
         void run() {
             soldUnits = 0;
@@ -1420,20 +1420,14 @@ public final class ClinchClock {
         static final int STRANGE = 4;
         static final int BLANK = 5;
 
-        private final Tape tape;
-        private final Book book;
+        final Tape tape = new Tape();
         private int token = FINISH;
         private int start = 0;
         private int stop = 0;
         private int fault = NONE;
 
-        TextReader(Tape tape, Book book) {
-            this.tape = tape;
-            this.book = book;
-        }
-
         /** The FAULT, NONE if there is none. */
-        int read() {
+        int read(Book book) {
             book.restart();
             fault = NONE;
             token = FINISH;
@@ -1448,7 +1442,7 @@ public final class ClinchClock {
                     book.reserve = readNumber(0, TOP_PRICE);
                 } else if (isWord("bidder") && book.bidders < MOST_BIDDERS) {
                     advance();
-                    readBidder(book.addBidder());
+                    readBidder(book, book.addBidder());
                 } else {
                     fail();
                 }
@@ -1457,7 +1451,7 @@ public final class ClinchClock {
             return fault;
         }
 
-        private void readBidder(int bidder) {
+        private void readBidder(Book book, int bidder) {
             int most = TOP_PRICE;
             for (int i = 0; i < MOST_VALUES && token == NUMBER && fault == NONE; i++) {
                 most = readNumber(0, most);
