@@ -149,6 +149,8 @@ public final class PromisesTest {
         fault("x", 0);
         fault("sup", 0);
         fault(" supplys 1;", 1);
+        fault("supplyz 1;", 0);
+        fault("supplya 1;", 0);
         fault("Supply 1;", 0);
         fault("cap 1;", 0);
         fault(";", 0);
@@ -189,7 +191,9 @@ public final class PromisesTest {
         ClinchClock x = clock(RISING);
         x.hold(0);
         x.supply(9);
+        due(4, "end", x.result(0), 1);
         due(4, "text, anew", tell(x, "bidder 3;"), 1);
+        due(4, "end, anew", x.result(0), 0);
         due(4, "anew", spelt(x), "supply 10;reserve 0;bidder 3;");
         due(4, "acts are forgotten", x.undo(), -1);
         due(4, "record is gone", x.record(0, 0), -1);
@@ -411,6 +415,10 @@ public final class PromisesTest {
         due(20, "undo supply", x.undo(), 0);
         due(20, "the tape stays", x.count(5), 6);
         due(20, "all undone", spelt(x), RISING);
+        x.supply(1);
+        due(20, "end of one", x.result(0), 8);
+        x.undo();
+        due(20, "end as it was", x.result(0), 5);
     }
 
     private static void ofBidders() {
@@ -598,6 +606,7 @@ public final class PromisesTest {
         due(35, "alike", x.alike(0, 1), 1);
         due(35, "another cap", x.alike(0, 2), 0);
         due(35, "another value", x.alike(0, 3), 0);
+        due(35, "another first value", clock("bidder 9 1;bidder 8 1;").alike(0, 1), 0);
         due(35, "fewer values", x.alike(4, 0), 0);
         x = clock("bidder 3 3;bidder 7 3 cap 0;");
         int[] whose = {1, 0, 0, 1, -1};
@@ -633,6 +642,7 @@ public final class PromisesTest {
         due(38, "what 3", x.step(0, 3), -1);
         due(38, "what -1", x.step(0, -1), -1);
         due(38, "at 0", clock("bidder 4 0;").step(0, 0), 0);
+        due(38, "at 99", clock("bidder 99;").step(0, 0), 99);
         due(38, "at 0, by caps", clock("bidder 4 0 cap 1;").step(0, 0), 4);
     }
 
@@ -690,6 +700,7 @@ public final class PromisesTest {
         due(44, "own values", x.bestReserve(2), 0);
         due(44, "no kind", x.bestReserve(4), -1);
         due(44, "no kind", x.bestReserve(-1), -1);
+        due(44, "up to 99", clock("bidder 99;").bestReserve(0), 99);
         due(44, "nothing", new ClinchClock().bestReserve(1), 0);
         due(42, "nothing happens", spelt(x), RISING);
         due(42, "no acts", x.count(4), 0);
@@ -811,6 +822,7 @@ public final class PromisesTest {
         due(54, "five", x.reserveFor(5), -2);
         due(54, "most", x.reserveFor(BIG), -2);
         due(54, "zero", x.reserveFor(0), -1);
+        due(54, "98 is not taken at 99", clock("supply 1;bidder 98;").reserveFor(1), 99);
         due(54, "99 is taken at 99", clock("supply 1;bidder 99;").reserveFor(1), -2);
         due(56, "5", x.supplyFor(5), 4);
         due(56, "8", x.supplyFor(8), 1);
@@ -823,6 +835,7 @@ public final class PromisesTest {
             wants.append("bidder 9 9 9 9 9 9 9 9;");
         }
         due(56, "more than 30", clock(wants.toString()).supplyFor(8), -2);
+        due(56, "30", clock(wants.substring(0, wants.length() - 5) + ";").supplyFor(8), 30);
         due(56, "none wants", clock(wants.toString()).supplyFor(9), 1);
         // B (8 5) loses its second to A's 6: a 6 ties, and A is ahead by the clock; a 7 takes it.
         due(57, "B", x.valueFor(1), 7);
@@ -831,6 +844,7 @@ public final class PromisesTest {
         due(57, "by its cap", clock("bidder 5 cap 1;").valueFor(0), -2);
         due(57, "0 at 0", clock("bidder 5;").valueFor(0), 0);
         due(57, "the reserve", clock("reserve 4;bidder 5;").valueFor(0), 4);
+        due(57, "up to 99", clock("supply 1;bidder 98;bidder;").valueFor(1), 99);
         due(57, "none would", clock("supply 1;bidder 99;bidder 1;").valueFor(1), -2);
         due(57, "eight", clock("bidder 1 1 1 1 1 1 1 1;").valueFor(0), -1);
         due(57, "nothing happens", spelt(x), RISING);
