@@ -13,6 +13,8 @@ import java.util.Random;
 public final class ModelTest {
     private static final int RUNS = 400;
     private static final int CALLS = 512;
+    // To empty the tape, to feed 500 bytes, to take back what is too much, to read them.
+    private static final int TEXT_CALLS = 28;
     private static final int[] WILD = {Integer.MIN_VALUE, Integer.MAX_VALUE, -100000, -101, -100, -9, -3, -2, -1,
         8, 9, 10, 30, 31, 32, 99, 100, 101, 255, 256, 511, 512, 1 << 30, 1 << 31};
 
@@ -1040,11 +1042,11 @@ public final class ModelTest {
 
         boolean run() {
             int calls = 0;
-            while (calls < CALLS) {
+            while (calls <= CALLS - TEXT_CALLS) {
                 boolean fine;
                 if (random.nextInt(40) == 0 || calls == 0) {
                     fine = step("back", new int[] {model.tape.length()}) && feed(randomText()) && step("text", new int[0]);
-                    calls += 30;
+                    calls += TEXT_CALLS;
                 } else {
                     String[] call = CALLS_AND_ARGUMENTS[random.nextInt(CALLS_AND_ARGUMENTS.length)].split(" ", 2);
                     int[] arguments = call[1].chars().map(c -> argument((char) c)).toArray();

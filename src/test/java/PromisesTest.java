@@ -62,7 +62,8 @@ public final class PromisesTest {
 
     private static String spelt(ClinchClock x) {
         StringBuilder b = new StringBuilder();
-        for (int i = 0; i < x.spell(-1); i++) {
+        int bytes = x.spell(-1);
+        for (int i = 0; i < bytes; i++) {
             b.append((char) x.spell(i));
         }
         return b.toString();
@@ -70,7 +71,8 @@ public final class PromisesTest {
 
     private static String reported(ClinchClock x, int kind) {
         StringBuilder b = new StringBuilder();
-        for (int i = 0; i < x.report(kind, -1); i++) {
+        int bytes = x.report(kind, -1);
+        for (int i = 0; i < bytes; i++) {
             b.append((char) x.report(kind, i));
         }
         return b.toString();
