@@ -86,7 +86,7 @@ public final class ActsEdgesTest {
     }
 
     private static void promise06_whoHasLeftCountsNoMore() {
-        ClinchClock x = Edges.clock("supply 4;reserve 0;bidder 9 5;bidder 4 3;");
+        ClinchClock x = Edges.clock("supply 4;reserve 0;bidder 9 5;bidder 8 3;");
         Edges.due(x.result(1), 4);
         x.leave(1);
         onlyTheFirstIsThere(x);
@@ -745,7 +745,7 @@ public final class ActsEdgesTest {
     private static void promise20_whoCameIsGoneAltogether() {
         ClinchClock x = Edges.clock("supply 4;reserve 0;bidder 9 5;");
         x.join();
-        x.value(1, 4);
+        x.value(1, 8);
         x.value(1, 3);
         Edges.due(x.result(1), 4);
         x.undo();
