@@ -1280,10 +1280,11 @@ public final class ClinchClock {
             return sum;
         }
 
+        /** From the book itself, as blocks() comes here by five calls and no more than eight may stand open. */
         private int valueOfAllUnits() {
             int sum = 0;
             for (int b = 0; b < book.bidders; b++) {
-                sum += valueOfUnits(b);
+                sum += book.sumOfFirst(b, units[b]);
             }
             return sum;
         }

@@ -13,17 +13,16 @@ import java.util.Set;
 import java.util.TreeSet;
 import java.util.regex.Matcher;
 import java.util.regex.Pattern;
-import java.util.stream.Collectors;
 
-/** The face is the document's, and the source keeps to those rules of LANGUAGE.md that can be seen by a search. */
+/** The face is the document's, and nothing else of the class can be seen from outside. */
 public final class FaceTest {
-    private static final Path SOURCE = Path.of("src/main/java/ClinchClock.java");
     private static final Path DOCUMENT = Path.of("../shared/DOC.md");
-    private static final String[] BARRED = {"\\bthrow\\b", "\\btry\\b", "\\bcatch\\b", "\\bsynchronized\\b",
-        "\\bassert\\b", "\\bimport\\b", "\\bpackage\\b", "->", "::", "\\bInteger\\.M", "\\bdouble\\b", "\\bfloat\\b",
-        "\\bprotected\\b", "\\bvar\\b", "@", "Exact\\("};
+    private static final int METHODS = 59;
 
     private static int wrong = 0;
+
+    private FaceTest() {
+    }
 
     private static void check(boolean fine, String what) {
         if (!fine) {
@@ -33,93 +32,67 @@ public final class FaceTest {
     }
 
     public static void main(String[] args) throws IOException {
-        faceIsTheDocuments();
-        membersAreHidden();
-        sourceKeepsTheRules(Files.readString(SOURCE));
-        System.out.println(wrong == 0 ? "the face is the document's" : wrong + " rules are broken");
+        Set<String> due = methodsOfTheDocument(Files.readString(DOCUMENT));
+        Set<String> got = methodsOfTheClass();
+        check(due.size() == METHODS, "the document has " + due.size() + " methods");
+        check(got.equals(due), "the face is " + got + ", due is " + due);
+        check(Modifier.isFinal(ClinchClock.class.getModifiers()), "the class is not final");
+        constructorsAreOne();
+        constantsAreOne();
+        othersAreHidden();
+        System.out.println(wrong == 0 ? "the face is the document's" : wrong + " faults of the face");
         if (wrong != 0) {
             System.exit(1);
         }
     }
 
-    private static void faceIsTheDocuments() throws IOException {
+    private static Set<String> methodsOfTheDocument(String document) {
         Set<String> due = new TreeSet<>();
-        Matcher m = Pattern.compile("    public (int|boolean) (\\w+)\\((.*)\\);").matcher(Files.readString(DOCUMENT));
+        Matcher m = Pattern.compile("    public (int|boolean) (\\w+)\\((.*)\\);").matcher(document);
         while (m.find()) {
-            int parameters = m.group(3).isEmpty() ? 0 : m.group(3).split(",").length;
-            due.add(m.group(1) + " " + m.group(2) + " " + parameters);
+            List<String> types = new ArrayList<>();
+            for (String parameter : m.group(3).isEmpty() ? new String[0] : m.group(3).split(", ")) {
+                types.add(parameter.split(" ")[0]);
+            }
+            due.add(m.group(1) + " " + m.group(2) + types);
         }
+        return due;
+    }
+
+    private static Set<String> methodsOfTheClass() {
         Set<String> got = new TreeSet<>();
         for (Method method : ClinchClock.class.getDeclaredMethods()) {
             if (Modifier.isPublic(method.getModifiers())) {
-                got.add(method.getReturnType() + " " + method.getName() + " " + method.getParameterCount());
+                check(!Modifier.isStatic(method.getModifiers()), method.getName() + " is static");
+                check(method.getExceptionTypes().length == 0, method.getName() + " tells of exceptions");
+                got.add(method.getReturnType() + " " + method.getName() + Arrays.toString(method.getParameterTypes()));
             }
         }
-        check(due.size() == 59, "the document has " + due.size() + " methods");
-        check(got.equals(due), "the face is " + got + ", due is " + due);
-        check(Modifier.isFinal(ClinchClock.class.getModifiers()), "the class is not final");
+        return got;
+    }
+
+    private static void constructorsAreOne() {
+        Constructor<?>[] constructors = ClinchClock.class.getDeclaredConstructors();
+        check(constructors.length == 1, constructors.length + " constructors");
+        check(constructors[0].getParameterCount() == 0, "the constructor takes something");
+        check(Modifier.isPublic(constructors[0].getModifiers()), "the constructor is not public");
+    }
+
+    private static void constantsAreOne() {
+        List<String> shown = new ArrayList<>();
+        for (Field field : ClinchClock.class.getFields()) {
+            shown.add(field.toString());
+        }
+        check(shown.equals(List.of("public static final int ClinchClock.NONE")), "the constants are " + shown);
         check(ClinchClock.NONE == -1, "NONE is not -1");
     }
 
-    private static void membersAreHidden() {
-        List<Member> members = new ArrayList<>();
-        members.addAll(Arrays.asList(ClinchClock.class.getDeclaredFields()));
-        for (Method method : ClinchClock.class.getDeclaredMethods()) {
-            members.add(method);
-        }
+    private static void othersAreHidden() {
+        List<Member> members = new ArrayList<>(Arrays.asList(ClinchClock.class.getDeclaredFields()));
+        members.addAll(Arrays.asList(ClinchClock.class.getDeclaredMethods()));
         for (Member member : members) {
-            boolean shown = Modifier.isPublic(member.getModifiers()) || Modifier.isPrivate(member.getModifiers());
-            check(shown || member.isSynthetic(), member.getName() + " is neither public nor private");
-        }
-        for (Constructor<?> constructor : ClinchClock.class.getDeclaredConstructors()) {
-            check(constructor.getParameterCount() == 0, "a constructor more");
-        }
-        Set<String> face = Arrays.stream(ClinchClock.class.getDeclaredMethods())
-            .filter(m -> Modifier.isPublic(m.getModifiers())).map(Method::getName).collect(Collectors.toSet());
-        check(ClinchClock.class.getDeclaredClasses().length <= 12, "more than twelve classes");
-        List<Class<?>> classes = new ArrayList<>(Arrays.asList(ClinchClock.class.getDeclaredClasses()));
-        for (Class<?> inside : classes) {
-            check(Modifier.isStatic(inside.getModifiers()), inside + " is not static");
-            for (Method method : inside.getDeclaredMethods()) {
-                check(!face.contains(method.getName()), inside + " has a method of the face: " + method.getName());
-            }
-        }
-        classes.add(ClinchClock.class);
-        for (Class<?> each : classes) {
-            fieldsAreFew(each);
-            for (Method method : each.getDeclaredMethods()) {
-                boolean hidden = !Modifier.isPublic(method.getModifiers());
-                check(!hidden || !face.contains(method.getName()), "hidden twin: " + method.getName());
-                check(method.getParameterCount() <= 7, "many parameters: " + method.getName());
-            }
-        }
-    }
-
-    private static void fieldsAreFew(Class<?> each) {
-        int fields = 0;
-        for (Field field : each.getDeclaredFields()) {
-            boolean isStatic = Modifier.isStatic(field.getModifiers());
-            check(!isStatic || Modifier.isFinal(field.getModifiers()), "static, not final: " + field);
-            fields += isStatic ? 0 : 1;
-        }
-        check(fields <= 20, each + " has " + fields + " fields");
-    }
-
-    private static void sourceKeepsTheRules(String source) {
-        String code = source.replaceAll("(?s)/\\*.*?\\*/", "").replaceAll("//[^\n]*", "").replaceAll("\"[^\"\n]*\"", "\"\"");
-        for (String barred : BARRED) {
-            check(!Pattern.compile(barred).matcher(code).find(), "the source has " + barred);
-        }
-        check(!Pattern.compile("[^\\x00-\\x7f]").matcher(source).find(), "a sign beyond 127");
-        int start = 0;
-        String[] lines = source.split("\n");
-        for (int i = 0; i < lines.length; i++) {
-            if (lines[i].matches("( {4}| {8})[a-z].*\\) \\{")) {
-                start = i;
-            }
-            if (lines[i].matches("( {4}| {8})\\}")) {
-                check(i - start < 60, "a long method at line " + start);
-            }
+            boolean fine = Modifier.isPublic(member.getModifiers()) || Modifier.isPrivate(member.getModifiers());
+            check(fine || member.isSynthetic(), member.getName() + " is neither public nor private");
         }
     }
 }
